@@ -353,14 +353,15 @@ final class Model {
     }
 
     private Choice best() {
-        List<Choice> all = new ArrayList<>();
-        assign(new ArrayList<>(), all);
-        Choice best = all.get(0);
-        for (Choice c : all) {
-            if (c.met > best.met || c.met == best.met && c.spent < best.spent) best = c;
-            else if (c.met == best.met && c.spent == best.spent && comesFirst(c, best)) best = c;
-        }
-        return best;
+        List<Choice> best = new ArrayList<>();
+        assign(new ArrayList<>(), best);
+        return best.get(0);
+    }
+
+    private static boolean isBetter(Choice c, Choice best) {
+        if (c.met != best.met) return c.met > best.met;
+        if (c.spent != best.spent) return c.spent < best.spent;
+        return comesFirst(c, best);
     }
 
     private static boolean comesFirst(Choice a, Choice b) {
@@ -372,10 +373,10 @@ final class Model {
         return false;
     }
 
-    private void assign(List<Integer> favours, List<Choice> all) {
+    private void assign(List<Integer> favours, List<Choice> best) {
         int i = favours.size();
         if (i == s.needs.size()) {
-            judge(favours, all);
+            judge(favours, best);
             return;
         }
         Need n = s.needs.get(i);
@@ -385,12 +386,12 @@ final class Model {
                 if (favours.contains(f) || p.of != n.person || p.thing != n.thing || p.valueOn(n.day) < n.size) continue;
             }
             favours.add(f);
-            assign(favours, all);
+            assign(favours, best);
             favours.remove(i);
         }
     }
 
-    private void judge(List<Integer> favours, List<Choice> all) {
+    private void judge(List<Integer> favours, List<Choice> best) {
         int[][] load = new int[s.people.size()][100];
         int met = 0, spent = 0;
         for (int i = 0; i < favours.size(); i++) {
@@ -402,7 +403,9 @@ final class Model {
             met++;
             spent += p.valueOn(day);
         }
-        all.add(new Choice(met, spent, List.copyOf(favours)));
+        Choice c = new Choice(met, spent, List.copyOf(favours));
+        if (best.isEmpty()) best.add(c);
+        else if (isBetter(c, best.get(0))) best.set(0, c);
     }
 
     int met(int what) {

@@ -42,15 +42,27 @@ public final class RandomRunsTest {
         System.out.println("RandomRunsTest: " + RUNS + " runs of " + CALLS + " calls, 0 wrong");
     }
 
+    /* How often each sort of call is drawn, in the order of the document's face (its numbers less 2). What makes
+       a street anew or empty is drawn seldom, so that streets grow old and full. */
+    private static final int[] WEIGHTS = {
+        1, 20, 60, 30, 1, 4, 2, 3, 12, 12,
+        12, 8, 6, 6, 3,
+        6, 20, 2, 8, 10, 10, 14, 14, 8, 3, 6, 14, 8, 1, 8, 8, 14,
+        3, 3, 2, 3, 6, 6};
+    private static final int SORTS = WEIGHTS.length;
+
     private void go(int[] seen) {
-        int last = -1;
-        while (left > 0 && wrong == 0) {
-            int sort = last == -1 && draw(2) == 0 ? 2 : draw(SORTS);
-            /* What makes a street anew is drawn less often, so that streets grow old and full. */
-            if ((sort == 0 || sort == 7 || sort == 4) && draw(8) != 0) sort = 2 + draw(2);
+        if (draw(3) == 0) {
+            write(12);
+            same("read()", x.read(), y.read());
+        }
+        int all = 0;
+        for (int weight : WEIGHTS) all += weight;
+        while (left > 80 && wrong == 0) {
+            int d = draw(all), sort = 0;
+            while (d >= WEIGHTS[sort]) d -= WEIGHTS[sort++];
             seen[sort]++;
             call(sort);
-            last = sort;
         }
     }
 
@@ -78,8 +90,6 @@ public final class RandomRunsTest {
         if (got != want) wrong++;
     }
 
-    private static final int SORTS = 38;
-
     private void call(int sort) {
         if (sort < 10) callStreet(sort);
         else if (sort < 15) callDeed(sort);
@@ -89,20 +99,25 @@ public final class RandomRunsTest {
     }
 
     private void callStreet(int sort) {
-        int a = person(), b = person(), c = favour();
+        int a = draw(3) == 0 ? person() : 0, b = draw(3) == 0 ? person() : 1, c = favour();
         switch (sort) {
             case 0: { int n = mostly(2, 6); same("people(" + n + ")", x.people(n), y.people(n)); break; }
             case 1: { int v = draw(2) == 0 ? mostly(0, 99) : mostly(0, 25); same("strong(" + a + ", " + v + ")", x.strong(a, v), y.strong(a, v)); break; }
             case 2: {
+                if (draw(2) == 0 && y.count(0) > 2) {
+                    a = person();
+                    b = person();
+                }
                 int kind = mostly(0, 4), thing = thing(), worth = draw(2) == 0 ? mostly(1, 40) : mostly(1, 9), till = day();
                 String call = "favour(" + kind + ", " + a + ", " + b + ", " + thing + ", " + worth + ", " + till + ")";
                 same(call, x.favour(kind, a, b, thing, worth, till), y.favour(kind, a, b, thing, worth, till));
                 break;
             }
             case 3: {
-                int thing = thing(), size = draw(2) == 0 ? mostly(1, 40) : mostly(1, 5), day = draw(2) == 0 ? y.count(4) : day();
-                String call = "need(" + a + ", " + thing + ", " + size + ", " + day + ")";
-                same(call, x.need(a, thing, size, day), y.need(a, thing, size, day));
+                int thing = thing(), size = draw(4) == 0 ? mostly(1, 40) : mostly(1, 5), day = draw(2) == 0 ? y.count(4) : day();
+                int p = draw(3) == 0 ? a : b;
+                String call = "need(" + p + ", " + thing + ", " + size + ", " + day + ")";
+                same(call, x.need(p, thing, size, day), y.need(p, thing, size, day));
                 break;
             }
             case 4: same("contented()", x.contented(), y.contented()); break;
@@ -113,7 +128,7 @@ public final class RandomRunsTest {
                 break;
             }
             case 6: same("clear()", x.clear(), y.clear()); break;
-            case 7: if (left > 80) write(); same("read()", x.read(), y.read()); break;
+            case 7: write(draw(3) == 0 ? 12 : 0); same("read()", x.read(), y.read()); break;
             case 8: { int d = mostly(0, 99); same("value(" + c + ", " + d + ")", x.value(c, d), y.value(c, d)); break; }
             default: same("of(" + c + ")", x.of(c), y.of(c)); break;
         }
@@ -131,7 +146,7 @@ public final class RandomRunsTest {
     }
 
     private void callOwed(int sort) {
-        int a = person(), b = person(), f = favour(), day = day();
+        int a = person(), b = person(), f = favour(), day = day() % 110;
         switch (sort) {
             case 15: same("owes(" + a + ", " + b + ")", x.owes(a, b), y.owes(a, b)); break;
             case 16: { int i = mostly(-1, 6); same("ring(" + i + ")", x.ring(i), y.ring(i)); break; }
@@ -154,7 +169,7 @@ public final class RandomRunsTest {
             case 28: same("forget()", x.forget(), y.forget()); break;
             case 29: same("goesOff(" + day + ")", x.goesOff(day), y.goesOff(day)); break;
             default: {
-                int w = mostly(0, 10), k = mostly(0, 5);
+                int w = mostly(0, 10), k = draw(2) == 0 ? mostly(0, 5) : mostly(0, 2);
                 same("kept(" + w + ", " + k + ")", x.kept(w, k), y.kept(w, k));
                 same("part(0)", x.part(0), y.part(0));
                 same("part(1)", x.part(1), y.part(1));
@@ -175,20 +190,25 @@ public final class RandomRunsTest {
     }
 
     /** A street's text, often with a little wrong in it, put in the place of what there was. */
-    private void write() {
+    private void write(int least) {
         StringBuilder all = new StringBuilder();
         int n = 2 + draw(5);
         item(all, "people", n);
-        int most = draw(20);
+        int most = least + draw(20 - least);
         for (int i = 0; i < most; i++) {
+            int was = all.length();
             int a = draw(n), b = (a + 1 + draw(n - 1)) % n;
             switch (draw(5)) {
                 case 0: item(all, "strong", a, draw(100)); break;
                 case 1: item(all, "need", a, draw(things), 1 + draw(10), draw(days)); break;
                 default: item(all, "favour", draw(5), a, b, draw(things), 1 + draw(9), draw(days)); break;
             }
+            if (least > 0 && all.length() > 250) {
+                all.setLength(was);
+                break;
+            }
         }
-        for (int d = draw(3); d > 0 && all.length() > 0; d--) {
+        for (int d = least > 0 ? 0 : draw(3); d > 0 && all.length() > 0; d--) {
             int at = draw(all.length());
             char sign = " ;abpn0159x\u00e9".charAt(draw(12));
             switch (draw(4)) {
