@@ -784,7 +784,6 @@ public final class FavoursGoOff {
         int readStreet() {
             fault = NONE;
             next = 0;
-            draft.open(0);
             step();
             readPeople();
             int items = 1;

@@ -13,6 +13,7 @@ public final class OwedTest {
         promise22And23Choice();
         promise22And23Strength();
         promise22And23Ties();
+        promise22And23Anew();
         promise22And23Wrong();
         promise24();
         promise24Rounds();
@@ -296,6 +297,43 @@ public final class OwedTest {
         A.due("a DAY that is over by now", x.met(0), 1);
     }
 
+    /** MET follows each call that can change it. */
+    private static void promise22And23Anew() {
+        FavoursGoOff x = new FavoursGoOff();
+        owe(x, 0, 1, 5);
+        owe(x, 0, 1, 6);
+        owe(x, 0, 1, 7);
+        x.favour(3, 1, 0, 0, 1, 0);
+        x.need(1, 0, 5, 5);
+        A.due("anew: first", x.plan(0), 0);
+        x.image(0);
+        x.night();
+        x.cancel();
+        A.due("anew: cancel", x.plan(0), 1);
+        x.pass(1, 2);
+        A.due("anew: pass", x.plan(0), 2);
+        x.undo();
+        A.due("anew: undo", x.plan(0), 0);
+        x.join(0, 1);
+        A.due("anew: join", x.plan(0), 2);
+        x.from(0);
+        A.due("anew: from", x.plan(0), 0);
+        x.ask(0);
+        A.due("anew: ask", x.plan(0), 1);
+        x.strong(0, 5);
+        A.due("anew: strong", x.plan(0), -1);
+        owe(x, 3, 1, 5);
+        A.due("anew: favour", x.plan(0), 4);
+        x.need(1, 0, 1, 5);
+        A.due("anew: need", x.plan(0) * 10 + x.plan(1), 39);
+        x.contented();
+        A.due("anew: contented", x.met(0), 0);
+        Answers.readText(x, "people 2; favour 0 0 1 0 5 9; need 1 0 5 0;");
+        A.due("anew: read", x.met(1), 5);
+        x.people(2);
+        A.due("anew: people", x.met(1), 0);
+    }
+
     private static void promise22And23Wrong() {
         FavoursGoOff x = new FavoursGoOff();
         x.need(1, 0, 5, 0);
@@ -351,6 +389,13 @@ public final class OwedTest {
         A.due("two ROUNDS", x.fire(0, 1), 2);
         x.strong(2, 4);
         A.due("not quite", x.fire(0, 0), 31);
+        x.people(6);
+        for (int p = 0; p < 6; p++) {
+            x.strong(p, 0);
+            owe(x, p, (p + 1) % 6, p == 5 ? 4 : 5);
+        }
+        A.due("all fall", x.fire(0, 0), 63);
+        A.due("six ROUNDS", x.fire(0, 1), 6);
         x.people(3);
         x.strong(0, 0);
         x.strong(1, 0);

@@ -224,6 +224,9 @@ public final class StreetTest {
         fault("2 people;", 0);
         fault("Xpeople 2;", 0);
         fault("peoples 2;", 0);
+        fault("xeople 2;", 0);
+        fault("peoplx 2;", 0);
+        fault("people 2;streng 0 1;", 9);
         fault("peopl 2;", 0);
         fault("people x;", 7);
         fault("people ;", 7);
