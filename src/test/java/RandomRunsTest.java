@@ -24,9 +24,11 @@ public final class RandomRunsTest {
 
     public static void main(String[] args) {
         int[] seen = new int[SORTS];
+        long answers = 0;
         for (int run = 1; run <= RUNS; run++) {
             RandomRunsTest r = new RandomRunsTest(run);
             r.go(seen);
+            answers += CALLS - r.left;
             if (r.wrong != 0) {
                 System.out.println("RandomRunsTest: run " + run);
                 r.calls.forEach(System.out::println);
@@ -39,7 +41,7 @@ public final class RandomRunsTest {
                 System.exit(1);
             }
         }
-        System.out.println("RandomRunsTest: " + RUNS + " runs of " + CALLS + " calls, 0 wrong");
+        System.out.println("RandomRunsTest: " + RUNS + " runs, " + answers + " answers, 0 wrong");
     }
 
     /* How often each sort of call is drawn, in the order of the document's face (its numbers less 2). What makes
@@ -58,6 +60,7 @@ public final class RandomRunsTest {
         }
         int all = 0;
         for (int weight : WEIGHTS) all += weight;
+        /* A text may take some forty calls; no run may go past the last call that is promised. */
         while (left > 80 && wrong == 0) {
             int d = draw(all), sort = 0;
             while (d >= WEIGHTS[sort]) d -= WEIGHTS[sort++];
