@@ -12,13 +12,16 @@ public final class MetEdgesTest {
         planStrengthOfEachDay();
         planStrengthOfEachPerson();
         planOfValueNone();
+        planOfTheFirstAndTheLast();
         metTheMostNeeds();
+        metTheMostWhereOneFitsBoth();
         metThenTheLeastValue();
         metThenTheFirstByNeeds();
         metNoneBehindAll();
         metOfFiveByTwelve();
         metOfNone();
         metOfADayThatIsOver();
+        metAsItIsNow();
         metBad();
         planBad();
         keptOfNoNeeds();
@@ -199,6 +202,51 @@ public final class MetEdgesTest {
         met(x, 0, 0, -1);
     }
 
+    private static void planOfTheFirstAndTheLast() {
+        A.sentence("PLAN: than his STRENGTH (of who owes the first FAVOUR, the last one)");
+        FavoursGoOff x = new FavoursGoOff();
+        x.people(6);
+        x.strong(0, 0);
+        x.strong(5, 4);
+        owe(x, 5, 4);
+        x.need(1, 0, 1, 0);
+        met(x, 1, 4, 0);
+        for (int f = 1; f < 11; f++) {
+            x.favour(PLAIN, 2, 3, 0, 1, 99);
+        }
+        owe(x, 0, 1);
+        met(x, 1, 4, 0);
+        x.strong(0, 1);
+        met(x, 1, 1, 11);
+        x.strong(0, 0);
+        x.strong(5, 3);
+        met(x, 0, 0, -1);
+    }
+
+    private static void metTheMostWhereOneFitsBoth() {
+        A.sentence("MET: the most NEEDS (a FAVOUR that fits both is left to whom no other fits)");
+        FavoursGoOff x = new FavoursGoOff();
+        x.favour(PLAIN, 0, 1, 0, 5, 99);
+        x.favour(PLAIN, 2, 1, 0, 6, 0);
+        x.need(1, 0, 5, 0);
+        x.need(1, 0, 5, 9);
+        met(x, 2, 11, 1, 0);
+        x.people(4);
+        for (int f = 0; f < 4; f++) {
+            x.favour(PLAIN, f == 1 ? 0 : f, 1, 0, 5 + f, f);
+        }
+        owe(x, 0, 4);
+        for (int n = 0; n < 5; n++) {
+            x.need(1, 0, 4, n);
+        }
+        met(x, 5, 5 + 6 + 7 + 8 + 4, 0, 1, 2, 3, 4);
+        x.contented();
+        for (int n = 0; n < 5; n++) {
+            x.need(1, 0, 4, 3 - n < 0 ? 0 : 3 - n);
+        }
+        met(x, 5, 5 + 6 + 7 + 8 + 4, 3, 2, 1, 0, 4);
+    }
+
     private static void metTheMostNeeds() {
         A.sentence("MET: that with the most NEEDS that have one");
         FavoursGoOff x = new FavoursGoOff();
@@ -331,6 +379,7 @@ public final class MetEdgesTest {
         FavoursGoOff x = new FavoursGoOff();
         met(x, 0, 0);
         owe(x, 0, 5);
+        x.favour(PLAIN, 1, 0, 0, 5, 99);
         met(x, 0, 0);
         x.need(1, 0, 6, 0);
         met(x, 0, 0, -1);
@@ -350,6 +399,49 @@ public final class MetEdgesTest {
         x.night();
         met(x, 1, 5, 0);
         A.due("though it is of VALUE 0 now", x.value(0, 3), 0);
+    }
+
+    private static void metAsItIsNow() {
+        A.sentence("MET: as PEOPLE, FAVOURS, NEEDS are behind each call");
+        FavoursGoOff x = new FavoursGoOff();
+        met(x, 0, 0);
+        x.need(1, 0, 5, 9);
+        met(x, 0, 0, -1);
+        owe(x, 0, 20);
+        met(x, 1, 20, 0);
+        owe(x, 0, 9);
+        met(x, 1, 9, 1);
+        x.image(0);
+        x.night();
+        owe(x, 0, 8);
+        met(x, 1, 8, 2);
+        x.undo();
+        met(x, 1, 9, 1);
+        x.join(0, 1);
+        met(x, 0, 0, -1);
+        x.strong(0, 40);
+        met(x, 1, 29, 0);
+        x.from(0);
+        met(x, 1, 9, 1);
+        x.ask(1);
+        met(x, 1, 20, 0);
+        x.pass(0, 2);
+        met(x, 0, 0, -1);
+        owe(x, 2, 7);
+        x.favour(PLAIN, 1, 2, 0, 1, 99);
+        met(x, 1, 7, 2);
+        A.due("cancel", x.cancel(), 2);
+        met(x, 0, 0, -1);
+        owe(x, 2, 6);
+        met(x, 1, 6, 4);
+        x.contented();
+        met(x, 0, 0);
+        x.need(1, 0, 5, 9);
+        met(x, 1, 6, 4);
+        A.due("read", Answers.readText(x, "people2;favour0 0 1 0 5 9;need1 0 5 9;"), 3);
+        met(x, 1, 5, 0);
+        x.people(2);
+        met(x, 0, 0);
     }
 
     private static void metBad() {

@@ -218,6 +218,11 @@ public final class ReadEdgesTest {
         fault("people 2;favours 0 0 1 0 1 0;", 9);
         fault("people 2;nee 0 0 1 0;", 9);
         fault("people 2;needs 0 0 1 0;", 9);
+        fault("beople 2;", 0);
+        fault("people 2;ttrong 0 5;", 9);
+        fault("people 2;bavour 0 0 1 0 1 0;", 9);
+        fault("people 2;feed 0 0 1 0;", 9);
+        fault("people 2;neef 0 0 1 0;", 9);
         fault("people 2;a", 9);
         fault("people 2;z;", 9);
         fault("people 2; plain", 10);
