@@ -100,7 +100,8 @@ public final class ReadmeTest {
         holds("it passes again: " + again.text, again.code == 0);
     }
 
-    private static void failsWith(Path project, Path file, String text, String words) throws IOException, InterruptedException {
+    private static void failsWith(Path project, Path file, String text, String words)
+        throws IOException, InterruptedException {
         put(file, text);
         Outcome run = tests(project);
         holds("it fails with " + file + ": " + run.text, run.code != 0 && run.tells(words));
